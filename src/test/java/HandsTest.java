@@ -9,6 +9,7 @@ public final class HandsTest {
         theLastIsDoneSoon();
         ofLikeOnesTheFirst();
         headsToMasters();
+        theMasterFirst();
         headsMayChange();
         nineSheetsAtMost();
         daysRefuses();
@@ -120,6 +121,13 @@ public final class HandsTest {
         x.hand(2, false);
         x.hand(3, true);
         dealing("the MASTER takes others too", x, 2, 0, 1, 1);
+    }
+
+    private static void theMasterFirst() {
+        MosaicShop x = headInTheMiddle();
+        x.hand(1, true);
+        x.hand(20, false);
+        dealing("the HEAD to the MASTER, who is slow", x, 3, 1, 0, 1);
     }
 
     /** Three SHEETS of 3 PLACES, with a HEAD on the second. */

@@ -19,6 +19,7 @@ public final class LotsTest {
         scrapeFillsToAThousand();
         changesAlongAField();
         changesRefuses();
+        aSmallerWallBehindAGreaterOne();
         Due.end("LotsTest");
     }
 
@@ -282,6 +283,34 @@ public final class LotsTest {
         lotsOfCubes("15: BARE, then a LOT", x, NONE, 0, NONE);
         Due.is("15: from BARE", x.changes(0), 1);
         Due.is("15: BARE alone", x.changes(1), 0);
+    }
+
+    /** What was LAID, PAINTED and CUT of the greater WALL is of no account any more. */
+    private static void aSmallerWallBehindAGreaterOne() {
+        for (int stock = 0; stock <= 1000; stock += 500) {
+            MosaicShop x = wall(24, 10, 3);
+            x.lot(0, 0, 0, stock);
+            x.lay();
+            x.paint();
+            x.cut(10, 24);
+            x.lot(0, 0, 0, 1000);
+            x.wall(3, 1);
+            x.lay();
+            Due.is("2: one CUBE", x.count(2), 1);
+            Due.is("13: paint", x.paint(), 0);
+            Due.is("13: 3 PLACES given", x.left(0) + x.left(1), stock + 1000 - (stock < 240 ? 3 : 243));
+            Due.is("15: changes", x.changes(0), 0);
+            x.cut(10, 24);
+            Due.is("9: TURNED OVER", x.cube(0, 6), 0);
+            Due.is("17: CUBES", x.sheet(0, 0), 1);
+            Due.is("17: WEIGHT", x.sheet(0, 1), 3);
+            Due.is("17: right border", x.sheet(0, 5), 3);
+            x.mark(0, 3, true, false);
+            Due.is("17: LEAF", x.sheet(0, 2), 3);
+            Due.is("18: broken", x.broken(0), 0);
+            Due.is("14: scrape", x.scrape(), 3);
+            Due.is("24: count(7)", x.count(7), stock + 1000 - (stock < 240 ? 3 : 243));
+        }
     }
 
     private static void changesRefuses() {

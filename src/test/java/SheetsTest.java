@@ -186,6 +186,14 @@ public final class SheetsTest {
         x.lot(9, 9, 9, 30);
         Due.is("18: by its own LOT, if another is nearer too", x.broken(2), 0);
         Due.is("18: the SHEET's PLACES", x.left(0), 7);
+        x = laid(3, 1, 3);
+        x.lot(9, 9, 9, 6);
+        x.paint();
+        x.lot(0, 0, 0, 30);
+        x.cut(1, 24);
+        Due.is("18: by its own LOT, if that has just as many", x.broken(0), 0);
+        Due.is("18: none left", x.left(0), 0);
+        Due.is("18: by another then", x.broken(0), 1);
         Due.is("18: a SHEET without CUBES", emptySheet().broken(0), 0);
     }
 
@@ -230,19 +238,20 @@ public final class SheetsTest {
 
     private static void brokenCanNotBeMade() {
         MosaicShop x = laid(7, 1, 3);
+        x.lot(0, 0, 0, 0);
         x.lot(0, 0, 0, 7);
         x.paint();
-        x.lot(0, 0, 0, 3);
+        x.more(0, 3);
+        x.more(1, 1);
         x.lot(0, 0, 0, 2);
-        x.more(0, 1);
         x.cut(1, 24);
         long before = x.digest();
         Due.is("18: none for the second", x.broken(0), NO);
         Due.is("18: nothing is taken", x.digest(), before);
-        each("18: LOTS as they were", x, 4, 0, 0, 0);
+        each("18: LOTS as they were", x, 4, 1, 1, 1);
         x.more(2, 1);
         Due.is("18: it can be made", x.broken(0), 2);
-        each("18: LOTS", x, 4, 1, 2, 0);
+        each("18: LOTS", x, 4, 0, 2, 1);
         for (int lot = 0; lot < 3; lot++) {
             Due.is("18: left(" + lot + ")", x.left(lot), 0);
         }
