@@ -8,7 +8,15 @@ final class Due {
     }
 
     static void is(String call, long got, long want) {
-        if (got == want) {
+        tell(call, got == want, Long.toString(got), Long.toString(want));
+    }
+
+    static void is(String call, String got, String want) {
+        tell(call, got.equals(want), got, want);
+    }
+
+    private static void tell(String call, boolean asDue, String got, String want) {
+        if (asDue) {
             right++;
             return;
         }
