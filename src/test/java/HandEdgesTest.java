@@ -121,6 +121,12 @@ public final class HandEdgesTest {
         Due.is("of like ones the least HAND", Shops.dealt(x), "1 2");
         x.mark(0, 1, false, false);
         Due.is("HEADS no more", Shops.dealt(x), "0 0");
+        x = Shops.row(6, 3);
+        x.mark(0, 1, false, true);
+        x.hand(3, true);
+        Due.is("the first HAND is a MASTER", x.days(), 2);
+        x.hand(20, false);
+        Due.is("a HAND that is none does not help", Shops.dealt(x), "0 0");
     }
 
     private static void aHeadOnOnePlace() {

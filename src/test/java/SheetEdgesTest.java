@@ -12,6 +12,7 @@ public final class SheetEdgesTest {
         columnsRoundedUp();
         cutsNotRightOfTheLeftBorder();
         turnedOver();
+        nothingOfAGreaterWall();
         weightAndLeaf();
         sheetsWithoutCubes();
         cutNumbers();
@@ -162,6 +163,35 @@ public final class SheetEdgesTest {
         x.cut(1, 12);
         Due.is("the first of 12", x.cube(12, 6), 11);
         Due.is("the last of 12", x.cube(11, 6), 0);
+    }
+
+    // the same of the last CUBE, where a greater WALL had one behind it
+    private static void nothingOfAGreaterWall() {
+        MosaicShop x = Shops.laid(24, 1, 3);
+        Shops.lots(x, 1000);
+        x.paint();
+        x.cut(1, 24);
+        x.wall(3, 1);
+        x.lay();
+        x.paint();
+        x.cut(1, 24);
+        x.mark(0, 3, true, false);
+        Due.is("left", Shops.left(x), "973");
+        Due.is("TURNED OVER", Shops.cubes(x, 6), "0");
+        Due.is("CUBES of the SHEET", x.sheet(0, 0), 1);
+        Due.is("WEIGHT", x.sheet(0, 1), 3);
+        Due.is("LEAF", x.sheet(0, 2), 3);
+        Due.is("greatest right border", x.sheet(0, 5), 3);
+        Due.is("broken", x.broken(0), 0);
+        Due.is("left", Shops.left(x), "970");
+        Due.is("scrape", x.scrape(), 3);
+        x = Shops.laid(24, 1, 3);
+        x.paint();
+        x.wall(3, 1);
+        x.lay();
+        Shops.lots(x, 3);
+        Due.is("none is BARE any more", x.paint(), 0);
+        Due.is("BARE ones", x.count(3), 0);
     }
 
     // "WEIGHT of a SHEET: its PLACES; LEAF: those of GOLD FIELDS."
@@ -384,10 +414,11 @@ public final class SheetEdgesTest {
     // "each by its LOT, if that has as many left"
     private static void brokenJustAsMany() {
         MosaicShop x = Shops.laid(3, 1, 3);
-        Shops.lots(x, 6, 9);
+        x.lot(9, 9, 9, 6);
         x.paint();
+        Shops.lots(x, 9);
         x.cut(1, 3);
-        Due.is("just as many", x.broken(0), 0);
+        Due.is("just as many, though another LOT is nearer", x.broken(0), 0);
         Due.is("left", Shops.left(x), "0 9");
         x.more(0, 2);
         Due.is("one less is not enough", x.broken(0), 1);

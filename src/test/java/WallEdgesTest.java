@@ -154,6 +154,13 @@ public final class WallEdgesTest {
         Due.is("STUCK there again", x.lay(), -1024);
         x.wall(3, 1);
         Due.is("LAID behind a STUCK one", x.lay(), 3);
+        for (int w = 1; w <= 3; w++) {
+            x = Shops.wall(3, 2, 1);
+            x.lay();
+            x.wall(w, 2);
+            x.draw(0, 1, w - 1, 1, 1);
+            Due.is("a WALL of " + w + " behind a STUCK one", x.lay(), w + 1);
+        }
     }
 
     // "no JOINT at a border at which the row ahead (y - 1) has one"
